@@ -399,11 +399,11 @@ public final class CanoeSides {
     }
 
     private static int eastOf(int heading) {
-        return EAST[Math.floorMod(heading, HEADINGS)];
+        return EAST[heading & (HEADINGS - 1)];
     }
 
     private static int southOf(int heading) {
-        return SOUTH[Math.floorMod(heading, HEADINGS)];
+        return SOUTH[heading & (HEADINGS - 1)];
     }
 
     private boolean noSquares() {
@@ -516,7 +516,7 @@ public final class CanoeSides {
         int gone = 0;
         for (int i = 0; i < n; i++) {
             int pair = k > 0 && i / k % 2 == 1 ? BOTH_RIGHT : BOTH_LEFT;
-            heading = Math.floorMod(heading + crew.turnOf(pair), HEADINGS);
+            heading = (heading + crew.turnOf(pair)) & (HEADINGS - 1);
             gone += crew.pushOf(pair) * (toTheEast ? eastOf(heading) : -southOf(heading));
         }
         return gone;
@@ -689,11 +689,6 @@ public final class CanoeSides {
             }
             clausesRead |= 1 << clause;
             at++;
-            readBody(clause);
-            readEnd();
-        }
-
-        private void readBody(int clause) {
             switch (clause) {
                 case 0: readSquares(); break;
                 case 1: readStrengths(); break;
@@ -702,6 +697,7 @@ public final class CanoeSides {
                 case 4: readWind(); break;
                 default: readHabits(); break;
             }
+            readEnd();
         }
 
         private void readSquares() {
@@ -803,7 +799,7 @@ public final class CanoeSides {
         }
 
         private void skipBlanks() {
-            while (at < end && letterHere() == ' ') {
+            while (at < end && at < letters.length && letters[at] == ' ') {
                 at++;
             }
         }
@@ -852,7 +848,7 @@ public final class CanoeSides {
 
         /** The spot behind a stroke and its stream, without wind. */
         int calm(int spot, int turn, int push) {
-            int heading = Math.floorMod(spot + turn, HEADINGS);
+            int heading = (spot + turn) & (HEADINGS - 1);
             int turned = spot / HEADINGS * HEADINGS + heading;
             int at = turned * PUSHES + push + MOST_PUSH;
             return at >= 0 && at < leads.length ? leads[at] * HEADINGS + heading : spot;
@@ -953,7 +949,7 @@ public final class CanoeSides {
         int takeBack(int n) {
             next = Math.floorMod(next - n, MOST_TAKEN_BACK);
             kept -= n;
-            return next < spots.length ? spots[next] : 0;
+            return next >= 0 && next < spots.length ? spots[next] : 0;
         }
 
         void forget() {

@@ -1,3 +1,5 @@
+import java.util.Random;
+
 /** Promises 24 to 29. */
 public final class LineTests {
     private static final int NONE = CanoeSides.NONE, UNKNOWN = CanoeSides.UNKNOWN, OUTSIDE = CanoeSides.OUTSIDE,
@@ -11,6 +13,7 @@ public final class LineTests {
         book();
         tear();
         refusals();
+        walks();
         Due.end("LineTests");
     }
 
@@ -172,5 +175,43 @@ public final class LineTests {
         Due.due("fits of none", none.fits(3), NOT);
         Due.due("judge of none", none.judge(), NOT);
         Due.due("write of none", none.write(99, 0, 0), UNKNOWN);
+    }
+
+    /** A second canoe paddles by draws, its squares become the line; the Model counts all rows of strokes. */
+    private static void walks() {
+        Random random = new Random(7);
+        String held = "";
+        for (int run = 0; run < 400; run++) {
+            StringBuilder text = new StringBuilder("r6 5");
+            for (int i = 0; i < 30; i++) {
+                text.append("........#onesw".charAt(random.nextInt(14)));
+            }
+            text.append(";p" + (1 + random.nextInt(9)) + " " + (1 + random.nextInt(9)) + " " + (1 + random.nextInt(9)) + " "
+                + (1 + random.nextInt(4)) + ";w" + random.nextInt(4) + " " + (1 + random.nextInt(4)) + ";");
+            CanoeSides canoe = Due.on(text.toString());
+            CanoeSides walker = Due.on(text.toString());
+            Model model = new Model();
+            text.chars().forEach(model::feed);
+            model.river();
+            int x = random.nextInt(6);
+            int y = random.nextInt(5);
+            int d = random.nextInt(8);
+            canoe.set(x, y, d);
+            walker.set(x, y, d);
+            model.set(x, y, d);
+            for (int k = 1 + random.nextInt(4); k > 0; k--) {
+                int place = walker.stroke(random.nextInt(4), random.nextInt(4));
+                canoe.line(place / 10, place % 10);
+                model.line(place / 10, place % 10);
+            }
+            String of = " of " + text + " " + x + y + d;
+            for (int i = -1; i < 4; i++) {
+                Due.due("fits " + i + of, canoe.fits(i), model.fits(i));
+            }
+            Due.due("gave 0" + of, canoe.gave(0), model.gave(0));
+            Due.due("gave 1" + of, canoe.gave(1), model.gave(1));
+            held += canoe.gave(0) != 0 || canoe.gave(1) != 0 ? "h" : "";
+        }
+        Due.due("some gave up", held.length() > 40 ? 1 : 0, 1);
     }
 }

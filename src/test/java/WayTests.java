@@ -1,3 +1,5 @@
+import java.util.Random;
+
 /** Promises 13 to 23. */
 public final class WayTests {
     private static final int NONE = CanoeSides.NONE, OUTSIDE = CanoeSides.OUTSIDE, NOT = CanoeSides.NOT;
@@ -21,6 +23,8 @@ public final class WayTests {
         rulesAtTheEdge();
         refusals();
         nothingChanges();
+        askedByTurns();
+        askedOfTwoRivers();
         Due.end("WayTests");
     }
 
@@ -372,5 +376,45 @@ public final class WayTests {
         for (int what = 0; what < 18; what++) {
             Due.due("told stays " + what, x.told(what), before[what]);
         }
+    }
+
+    private static final String WINDY = "r6 4...... .##.o. .e.n.. ....s.;p1 1 3 1;g5 0 3;w1 4;";
+
+    /** 0 to 10: FEWEST, a THIRD, ALONE; then CALLS of sixteen pairs; then SURELY. */
+    private static int ask(CanoeSides x, int which) {
+        return which == 0 ? x.fewest(NONE) : which < 10 ? x.third(which) : which == 10 ? x.alone()
+            : which < 27 ? x.calls(which - 11, 1) : x.surely(0);
+    }
+
+    /** What one look leaves must not answer another one: each answer is that of a new object. */
+    private static void askedByTurns() {
+        int[][] fresh = new int[8][28];
+        for (int d = 0; d < 8; d++) {
+            for (int which = 0; which < 28; which++) {
+                fresh[d][which] = ask(at(WINDY, 2, 3, d), which);
+            }
+        }
+        Random random = new Random(11);
+        for (int run = 0; run < 40; run++) {
+            CanoeSides x = Due.on(WINDY);
+            for (int i = 0; i < 220; i++) {
+                int d = random.nextInt(8);
+                int which = run % 3 == 0 ? random.nextInt(11) : run % 3 == 1 ? 11 + random.nextInt(16) : random.nextInt(28);
+                x.set(2, 3, d);
+                Due.due("asked by turns " + d + " " + which, ask(x, which), fresh[d][which]);
+            }
+        }
+    }
+
+    private static void askedOfTwoRivers() {
+        String[] texts = {"r5 1.....;p1 1 20 1;b0 0 2;g4 0 8;w0 3;", "r5 1.....;p1 1 20 2;b0 0 2;g4 0 8;w0 3;"};
+        for (int which = 0; which < 28; which++) {
+            CanoeSides x = Due.on(texts[0]);
+            ask(x, which);
+            Due.feed(x, texts[1]);
+            x.river();
+            Due.due("of two rivers " + which, ask(x, which), ask(Due.on(texts[1]), which));
+        }
+        Due.due("they differ", ask(Due.on(texts[0]), 0) - ask(Due.on(texts[1]), 0), -2);
     }
 }
