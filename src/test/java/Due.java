@@ -2,6 +2,7 @@
 final class Due {
     private static int asked = 0;
     private static int wrong = 0;
+    private static String about = "";
 
     private Due() {
     }
@@ -11,9 +12,14 @@ final class Due {
         if (got != want) {
             wrong++;
             if (wrong <= 40) {
-                System.out.println(call + " answered " + got + ", due is " + want);
+                System.out.println(about + call + " answered " + got + ", due is " + want);
             }
         }
+    }
+
+    /** What the answers that follow are for, told ahead of each that is not due. */
+    static void about(String what) {
+        about = what;
     }
 
     static void row(String call, int[] got, int... want) {
