@@ -106,6 +106,14 @@ final class LineEdges {
         for (int i = 0; i < 4; i++) {
             Due.due("fits(" + i + ") where none fits", line(even, 4, 5, 6, 2).fits(i), NONE);
         }
+        CanoeSides first = line(even, 5, 4);
+        Due.due("none fits at the first: how many", first.fits(NONE), 0);
+        Due.due("none fits at the first: its PAIR", first.fits(0), NONE);
+        Due.due("none fits at the first: the second's PAIR", first.fits(1), NONE);
+        CanoeSides third = line(even + "w1 3;", 3, 3, 4, 4);
+        Due.due("the wind at the third alone", third.fits(NONE), 11 * 11 * 11 * 11);
+        CanoeSides second = line(even + "w1 2;", 3, 4, 4, 5);
+        Due.due("the wind at the second and the fourth", second.fits(NONE), 11 * 11 * 11 * 11);
         CanoeSides windy = Due.on(even + "w1 2;");
         windy.line(4, 0);
         Due.due("no wind at the next stroke", windy.fits(NONE), 4);

@@ -575,6 +575,15 @@ final class TextEdges {
         Due.due("goBack(1)", x.goBack(1), NOT);
         Due.due("back(1)", x.back(1), NOT);
         Due.due("seed(0)", x.seed(0), 777);
+        CanoeSides again = Due.on("r5 1.....;p1 1 20 1;g4 0 8;w1 9;b0 0 2;");
+        Due.due("fewest(NONE) of one river", again.fewest(NONE), 2);
+        Due.due("calls(0, 1) of one river", again.calls(0, 1), 2);
+        Due.due("surely(0) of one river", again.surely(0), 2);
+        Due.feed(again, "r5 1.....;p1 1 20 2;g4 0 8;w1 9;b0 0 2;");
+        again.river();
+        Due.due("fewest(NONE) of the next one", again.fewest(NONE), 4);
+        Due.due("calls(0, 1) of the next one", again.calls(0, 1), 4);
+        Due.due("surely(0) of the next one", again.surely(0), 4);
         CanoeSides empty = lively();
         Due.due("river() of an empty text", empty.river(), 0);
         Due.due("goBack(0)", empty.goBack(0), NOT);

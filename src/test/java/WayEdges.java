@@ -125,6 +125,14 @@ final class WayEdges {
         Due.due("0, 1 and 2 lead not there: the first that does", one.fewest(0), 3);
         CanoeSides back = Due.on("r5 1.....;" + STRAIGHT + "b4 0 2;g2 0 8;");
         Due.due("both back", back.fewest(0), BOTH_BACK);
+        int[] row = {5, 1, 0, 1, 5, 0, 1};
+        String far = "r8 6 ........ ...oo... ..#..#.. .e.nn.w. ..s..#.. ........;p3 2 5 3;b0 5 2;g7 0 6;w3 3;";
+        CanoeSides walked = Due.on(far);
+        for (int i = 0; i < row.length; i++) {
+            Due.due("the PAIR " + i + " of fourteen", Due.on(far).fewest(i), row[i]);
+            Due.due("so many are left", walked.fewest(NONE), 14 - i);
+            walked.stroke(row[i] / 4, row[i] % 4);
+        }
         Says.promise(13, "FEWEST: i = NONE how many, else the i-th PAIR; NONE (without a GOAL, too).");
         for (int i : new int[] {-2, 2, 3, 60, 61, Integer.MIN_VALUE, Integer.MAX_VALUE}) {
             Due.due("fewest(" + i + ") of two", x.fewest(i), NONE);
@@ -285,6 +293,8 @@ final class WayEdges {
         off("three: right at the third", x, 2, 3, 3, 2);
         off("four", x, 2, 4, 3, 3);
         off("five: left again", x, 2, 5, 4, 4);
+        off("four, by one and one: right again", x, 1, 4, 2, 4);
+        off("five, by one and one: left again", x, 1, 5, 3, 5);
         off("to the west: seven left, two right", x, 7, 9, -2, -2);
         off("left once round", x, 8, 8, 0, 0);
         off("and right once round", x, 8, 16, 0, 0);
@@ -357,6 +367,11 @@ final class WayEdges {
         CanoeSides three = held(round, 2);
         three.set(0, 0, 0);
         still("round by streams and one gust", three, 0, 0, 0);
+        still("no wind, then wind to the west", Due.on("r3 2wes.ns;p3 4 2 2;w3 2;b1 0 2;"), 15, 11);
+        still("no wind, then wind to the east", Due.on("r3 2.nswse;p3 3 3 3;w1 2;b2 0 2;"), 11, 15);
+        still("the first of three by 5", Due.on("r3 1wen;p1 3 3 4;w1 3;b1 0 0;"), 5, 0, 2);
+        still("the second of three by 10", Due.on("r3 1nws;p2 4 3 3;w3 3;b1 0 0;"), 1, 10, 4);
+        still("the second of three by 4", Due.on("r2 2.eww;p1 4 4 1;w2 3;b1 1 5;"), 1, 4, 2);
         still("round by four streams", Due.on("r2 2esnw;p1 1 20 20;b0 0 0;"));
         still("away, and never back", Due.on("r3 1.ee;p1 1 20 20;b1 0 0;"));
         Says.promise(19, "STILL: i = NONE how many, else the i-th PAIR; NONE.");
@@ -458,6 +473,7 @@ final class WayEdges {
             Due.due("third(" + c + ") 61", held(DRIVEN, 2).third(c), NONE);
             Due.due("third(" + c + "): (1 + 2 + c) / 9 turned", Due.on("r1 1.;p1 1 9 20;g0 0 1;").third(c), c < 6 ? NONE : 1);
         }
+        Due.due("the one behind paddles, too: (9 + 1 + 1) / 11 on", Due.on("r5 1.....;p1 1 20 11;b0 0 2;g1 0 8;").third(9), 1);
         CanoeSides x = Due.on(text);
         Due.due("a third", x.third(9), 2);
         Due.due("FEWEST of the two stays", x.fewest(NONE), NONE);
