@@ -90,7 +90,7 @@ public final class ModelTests {
 
     private String spoilt(String text) {
         StringBuilder spoilt = new StringBuilder(text);
-        for (int i = draw(4); i > 0; i--) {
+        for (int i = draw(4); i > 0 && spoilt.length() > 0; i--) {
             int at = draw(Math.max(1, spoilt.length() - 1));
             char letter = LETTERS.charAt(draw(LETTERS.length()));
             switch (draw(5)) {
