@@ -832,7 +832,7 @@ public final class CanoeSides {
 
         void chart(River course) {
             times = Math.max(1, course.windEvery);
-            for (int square = 0; square < SQUARES; square++) {
+            for (int square = 0; square < blown.length; square++) {
                 blown[square] = course.blown(square);
             }
             for (int at = 0; at < leads.length; at++) {
@@ -880,7 +880,7 @@ public final class CanoeSides {
         void take(River course, int kneeling) {
             int front = course.strengthInFront + kneeling;
             int behind = course.strengthBehind;
-            for (int pair = 0; pair < PAIRS; pair++) {
+            for (int pair = 0; pair < PAIRS && pair < turns.length && pair < pushes.length; pair++) {
                 int a = pair / 4;
                 int b = pair % 4;
                 turns[pair] = (front * turning(a) + 2 * behind * turning(b)) / Math.max(1, course.turnPart);
@@ -1094,8 +1094,7 @@ public final class CanoeSides {
                 for (int pair = 0; pair < PAIRS && nearer > 0; pair++) {
                     pass++;
                     for (int i = 0; i < nearer && i < sources.length; i++) {
-                        int from = sources[i];
-                        goOn(course, crew, from, before[from], pair);
+                        goOn(course, crew, sources[i], strokesTo(sources[i]), pair);
                     }
                 }
             }
@@ -1107,7 +1106,7 @@ public final class CanoeSides {
 
         private int gatherSources() {
             int many = 0;
-            for (int moment = 0; moment < MOMENTS; moment++) {
+            for (int moment = 0; moment < least.length && moment < before.length; moment++) {
                 if (least[moment] < before[moment] && many < sources.length) {
                     before[moment] = least[moment];
                     sources[many] = moment;
@@ -1115,6 +1114,10 @@ public final class CanoeSides {
                 }
             }
             return many;
+        }
+
+        private int strokesTo(int source) {
+            return source >= 0 && source < before.length ? before[source] : FAR;
         }
 
         /** Stops where an earlier call, or this same pair from another moment, was as soon: all behind it is known. */
@@ -1250,15 +1253,15 @@ public final class CanoeSides {
             for (int at = 0; at < ways.length; at++) {
                 ways[at] = at / HEADINGS == marks ? 1 : 0;
             }
-            for (int k = marks - 1; k >= 0; k--) {
-                for (int heading = 0; heading < HEADINGS; heading++) {
-                    int now = momentBehind(k, heading, crew, start);
-                    int sum = 0;
-                    for (int pair = 0; pair < PAIRS; pair++) {
-                        sum += waysBehind(k, crew.after(now, pair));
-                    }
-                    ways[k * HEADINGS + heading] = sum;
+            int behindAll = Math.max(0, Math.min(marks * HEADINGS, ways.length));
+            for (int at = behindAll - 1; at >= 0; at--) {
+                int k = at / HEADINGS;
+                int now = momentBehind(k, at % HEADINGS, crew, start);
+                int sum = 0;
+                for (int pair = 0; pair < PAIRS; pair++) {
+                    sum += waysBehind(k, crew.after(now, pair));
                 }
+                ways[at] = sum;
             }
         }
 

@@ -2,6 +2,7 @@
 public final class EdgeTests {
     public static void main(String[] args) throws Exception {
         Says.readDocument();
+        FaceEdges.all();
         TextEdges.all();
         StrokeEdges.all();
         WayEdges.all();
@@ -11,9 +12,9 @@ public final class EdgeTests {
             for (int promise = 1; promise <= 32; promise++) {
                 Says.allTold("Promise " + promise);
             }
-            Says.allTold("Terms", "Words in capitals are told where they come first.", "All numbers are whole;",
-                "the interface says: ---- the river.", "the interface says: ---- strokes.", "the interface says: ---- ways.",
-                "the interface says: ---- lines.", "the interface says: ---- images.");
+            Says.allTold("Terms", "Words in capitals are told where they come first.", "All numbers are whole;", "======== 1", "======== 2",
+                "======== 3", "```text");
+            Says.allTold("The public face", "```java", "```");
         }
         Due.end("EdgeTests");
     }

@@ -53,25 +53,27 @@ final class Says {
         }
     }
 
-    /** Each part of a section, between stops, must have been told by a test, or stand among those that bound nothing. */
+    /** Each word of a section must have been told by a test, or stand among those that bound nothing. */
     static void allTold(String section, String... boundNothing) {
         Due.about(section + ": ");
         String text = SECTIONS.getOrDefault(section, "");
         for (String part : boundNothing) {
             int at = text.indexOf(part);
             Due.due("'" + part + "' stands in the document", at >= 0 || SECTIONS.isEmpty() ? 1 : 0, 1);
-            if (at >= 0) {
+            for (; at >= 0; at = text.indexOf(part, at + 1)) {
                 Arrays.fill(TOLD.get(section), at, at + part.length(), true);
             }
         }
         int from = text.indexOf("`: ") >= 0 ? text.indexOf("`: ") + 3 : 0;
-        for (String part : text.substring(from).split("(?<=[.;]) ")) {
-            boolean told = part.isBlank();
-            for (int i = from; i < from + part.length(); i++) {
-                told |= TOLD.get(section)[i];
+        StringBuilder untold = new StringBuilder();
+        for (int i = from; i <= text.length(); i++) {
+            if (i < text.length() && !TOLD.get(section)[i]) {
+                untold.append(text.charAt(i));
+                continue;
             }
-            from += part.length() + 1;
-            Due.due("'" + part + "' has a test", told ? 1 : 0, 1);
+            boolean words = untold.chars().anyMatch(Character::isLetterOrDigit);
+            Due.due("'" + untold + "' has a test", words ? 0 : 1, 1);
+            untold.setLength(0);
         }
     }
 

@@ -70,6 +70,12 @@ final class StrokeEdges {
     }
 
     private static void turn() {
+        Says.terms("A STROKE of both (first the one in front):");
+        CanoeSides both = Due.on("r1 1.;p1 2 1 1;");
+        Due.due("left in front, 1 times 1", both.would(LEFT, HOLD, 2), 1);
+        Due.due("left behind, 2 times 2", both.would(HOLD, LEFT, 2), 4);
+        Due.due("back in front", both.would(BACK, HOLD, 3), -1);
+        Due.due("back behind", both.would(HOLD, BACK, 3), -2);
         Says.terms("TURN: left 1, right -1, else 0, times the strength, in front once, behind twice, together, / T: so many eighths to"
             + " the right (less: to the left).");
         CanoeSides x = Due.on("r1 1.;p3 2 1 1;");

@@ -14,6 +14,7 @@ final class TextEdges {
         numbersAndPairs();
         squaresTold();
         clausesInAnyOrder();
+        clauseForms();
         strengthsTold();
         boatTold();
         goalTold();
@@ -82,7 +83,7 @@ final class TextEdges {
         Due.due("OUTSIDE", OUTSIDE, -1000000002);
         Due.due("NOT", NOT, -1000000003);
         Due.due("FULL", FULL, -1000000004);
-        Says.terms("of several the first in this order: UNKNOWN (a SQUARE, IMAGE that there is not), OUTSIDE (another number out"
+        Says.terms("REFUSALS, of several the first in this order: UNKNOWN (a SQUARE, IMAGE that there is not), OUTSIDE (another number out"
             + " of its bounds), NOT (not now, as told), FULL.");
         CanoeSides x = Due.on("r2 1.#;");
         Due.due("UNKNOWN ahead of OUTSIDE: set", x.set(2, 0, 8), UNKNOWN);
@@ -157,7 +158,7 @@ final class TextEdges {
     // ---- clauses
 
     private static void squaresTold() {
-        Says.terms("(250 letters at most)");
+        Says.terms("THE RIVER is told in a text (250 letters at most), letter by letter: clauses:");
         good("r1 1.;" + " ".repeat(244), 1);
         good(" ".repeat(244) + "r1 1.;", 1);
         Says.terms("(SQUARES X 0 .. W less 1, Y 0 .. H less 1, north is Y less 1;");
@@ -198,7 +199,7 @@ final class TextEdges {
     }
 
     private static void clausesInAnyOrder() {
-        Says.terms("letter by letter: clauses:");
+        Says.terms("clauses:");
         String[] clauses = {"p3 4 5 6;", "b1 0 7;", "g0 1 3;", "w2 9;", "hbhlrrlhb;"};
         for (int first = 0; first < clauses.length; first++) {
             StringBuilder text = new StringBuilder("r2 2....;");
@@ -211,6 +212,55 @@ final class TextEdges {
             told(Due.on("r2 2....;" + clauses[first]), 0, 2, 2);
             Due.due("each one alone", Due.on("r2 2....;" + clauses[first]).fault(), NONE);
         }
+    }
+
+    /** All that a clause has, in its order; one part less or more cannot stand there. */
+    private static void clauseForms() {
+        Says.terms("'r' W H ROW ';'");
+        CanoeSides r = Due.on("r3 1#oe;");
+        told(r, 0, 3, 1);
+        Due.due("the ROW", 100 * r.square(0, 0) + 10 * r.square(1, 0) + r.square(2, 0), 124);
+        fault(1, "r3^...;");
+        fault(1, "r3 1^;");
+        fault(1, "r3 1 ^1...;");
+        fault(1, "r3 1...^");
+        fault(1, "r3 1...^p1 1 1 1;");
+        fault(1, "r3 1...;^;");
+        Says.terms("'p' F B T P ';'");
+        told(Due.on("r1 1.;p1 2 3 4;"), 2, 1, 2, 3, 4);
+        form("r1 1.;p", "1 2 3 4");
+        Says.terms("'b' X Y D ';'");
+        told(Due.on("r2 2....;b1 0 5;"), 7, 10, 5);
+        told(Due.on("r2 2....;b0 1 5;"), 7, 1, 5);
+        form("r8 6" + ".".repeat(48) + ";b", "1 2 3");
+        Says.terms("'g' X Y D ';'");
+        told(Due.on("r2 2....;g1 0 5;"), 10, 10, 5);
+        told(Due.on("r2 2....;g0 1 5;"), 10, 1, 5);
+        form("r8 6" + ".".repeat(48) + ";g", "1 2 3");
+        Says.terms("'w' D N ';'");
+        told(Due.on("r1 1.;w1 2;"), 12, 1, 2);
+        form("r1 1.;w", "1 2");
+        Says.terms("'h' ROW ROW ';'");
+        CanoeSides h = Due.on("r1 1.;hrrrr hhhh;");
+        for (int stroke = 0; stroke < 4; stroke++) {
+            Due.due("habit(0, " + stroke + ")", h.habit(0, stroke), 1);
+            Due.due("habit(1, " + stroke + ")", h.habit(1, stroke), 3);
+        }
+        fault(1, "r1 1.;hlrbh lrb^;");
+        fault(1, "r1 1.;hlrbh lrbh ^l;");
+        fault(1, "r1 1.;hlrbh lrbh^");
+        fault(1, "r1 1.;hlrbh ^1rbh;");
+    }
+
+    /** Good with these NUMBERS alone; with one less, one more, without the ';', or with another letter in its place. */
+    private static void form(String ahead, String numbers) {
+        Due.due("fault of '" + ahead + numbers + ";'", Due.on(ahead + numbers + ";").fault(), NONE);
+        fault(1, ahead + numbers.substring(0, numbers.length() - 2) + "^;");
+        fault(1, ahead + "^;");
+        fault(1, ahead + numbers + " ^1;");
+        fault(1, ahead + numbers + "^");
+        fault(1, ahead + numbers + "^.");
+        fault(1, ahead + numbers + ";^;");
     }
 
     private static void strengthsTold() {
